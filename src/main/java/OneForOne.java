@@ -618,7 +618,7 @@ public final class OneForOne {
 
     /** How all is told: what AN IMAGE keeps, and what never changes of PEOPLE. */
     private static final class Lake {
-        private static final int[] STEP = {4, 20, 100, 500, 2500, 12500};
+        static final int[] STEP = {4, 20, 100, 500, 2500, 12500};
 
         int boat;
         int people;
@@ -1229,8 +1229,9 @@ public final class OneForOne {
 
     /** All states that can be come to, in the order of their hours (or swaps, or rowings). */
     private static final class Search {
-        // One aboard, five ashore: 6 times 4 to the 5th, times 4 for the boat. No other number aboard has more.
-        private static final int MOST_STATES = 24576, STATE_NUMBERS = 62500, STATE_BITS = 16, STATE_MASK = 65535;
+        // A swap leaves as many at each place as there were: 6 people share 5 places in 6! / 2! ways at most, times 4
+        // for the boat.
+        private static final int MOST_STATES = 1440, STATE_NUMBERS = 62500, STATE_BITS = 16, STATE_MASK = 65535;
 
         private final Rules rules;
         private final int[] seen = new int[STATE_NUMBERS / 32 + 1];

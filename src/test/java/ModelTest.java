@@ -47,7 +47,13 @@ public final class ModelTest {
         }
 
         int go() {
-            int n = 60 + random.nextInt(450);
+            int n = 60 + random.nextInt(390);
+            if (below(4) != 0) {
+                scene();
+            }
+            if (below(3) == 0) {
+                sheets();
+            }
             for (int i = 0; i < n && fault == null; i++) {
                 step();
             }
@@ -81,12 +87,41 @@ public final class ModelTest {
             }
         }
 
+        /** Some aboard, and so many PAID that ALL may come to be THERE. */
+        void scene() {
+            int all = below(6) == 0 ? 6 : 2 + below(4);
+            int aboard = Math.min(all - 1, below(3) == 0 ? 2 : below(8) == 0 ? 3 : 1);
+            for (int p = 0; p < all; p++) {
+                int where = p < aboard ? 4 : below(4);
+                int kind = below(all) < aboard + 1 || p >= all - aboard ? 3 : below(3) == 0 ? below(6) : 0;
+                person(kind, 10 * where + below(4), 100 * below(14) + below(100), below(6));
+            }
+            for (int k = below(3); k > 0; k--) {
+                foe(below(all), below(all), 1);
+            }
+        }
+
+        void sheets() {
+            for (int s = 0; s < 4; s++) {
+                int sort = below(3);
+                same("sheet(" + s + ", " + sort + ", 40)", x.sheet(s, sort, 40), m.sheet(s, sort, 40));
+                for (int i = 0; i < 12; i++) {
+                    int v = i % 4 == 0 ? below(6) : i % 4 == 1 ? 10 * below(5) + below(4) : i % 4 == 2 ? below(400) : below(6);
+                    same("cell(" + s + ", " + i + ", " + v + ")", x.cell(s, i, v), m.cell(s, i, v));
+                }
+            }
+        }
+
         void step() {
             int r = below(100);
-            if (r < 14) {
+            if (r < 3 || r < 14 && heavy == 0) {
                 grow();
-            } else if (r < 30) {
+            } else if (r < 14) {
+                states();
+            } else if (r < 18 || r < 30 && heavy == 0) {
                 change();
+            } else if (r < 30) {
+                states();
             } else if (r < 38) {
                 lawCalls();
             } else if (r < 50) {
@@ -97,7 +132,7 @@ public final class ModelTest {
                 lots();
             } else if (r < 85) {
                 host();
-            } else if (heavy > 0 || m.people.size() < 5) {
+            } else {
                 states();
             }
         }
@@ -110,8 +145,16 @@ public final class ModelTest {
             int ways = below(3) == 0 ? odd(0, 43) : 10 * (below(2) == 0 ? 4 : below(4)) + below(4);
             int byWorth = below(2) == 0 ? odd(0, 9999) : 100 * below(12) + below(100);
             int more = odd(0, 5);
+            person(kind, ways, byWorth, more);
+        }
+
+        void person(int kind, int ways, int byWorth, int more) {
             same("person(" + kind + ", " + ways + ", " + byWorth + ", " + more + ")",
                 x.person(kind, ways, byWorth, more), m.person(kind, ways, byWorth, more));
+        }
+
+        void foe(int p, int q, int is) {
+            same("foe(" + p + ", " + q + ", " + is + ")", x.foe(p, q, is), m.foe(p, q, is));
         }
 
         void change() {
@@ -128,8 +171,7 @@ public final class ModelTest {
                     break;
                 }
                 case 2: {
-                    int p = odd(0, n), q = odd(0, n), is = odd(0, 1);
-                    same("foe(" + p + ", " + q + ", " + is + ")", x.foe(p, q, is), m.foe(p, q, is));
+                    foe(odd(0, n), odd(0, n), odd(0, 1));
                     break;
                 }
                 case 3:
@@ -196,7 +238,7 @@ public final class ModelTest {
                     break;
                 }
                 case 2: {
-                    int off = odd(0, n), on = odd(0, n);
+                    int off = below(2) == 0 ? odd(0, n) : someoneAt(4), on = below(2) == 0 ? odd(0, n) : someoneAt(m.boat);
                     same("may(" + off + ", " + on + ")", x.may(off, on), m.may(off, on));
                     break;
                 }
@@ -213,11 +255,32 @@ public final class ModelTest {
             }
         }
 
+        int someoneAt(int place) {
+            return someoneAt(place, m.spot());
+        }
+
+        int someoneAt(int place, List<Integer> spot) {
+            int from = below(6);
+            for (int k = 0; k < m.people.size(); k++) {
+                int p = (from + k) % m.people.size();
+                if (spot.get(p) == place) {
+                    return p;
+                }
+            }
+            return 0;
+        }
+
         void moves() {
             int r = below(12);
             int count = m.moves.size();
             if (r < 5) {
-                int kind = odd(0, 2), a = kind == 2 ? odd(0, 99) : odd(0, kind == 0 ? 3 : 5), b = odd(0, 5);
+                int kind = below(4) == 0 ? odd(0, 2) : below(2);
+                int a = kind == 2 ? odd(0, 99) : odd(0, kind == 0 ? 3 : 5), b = odd(0, 5);
+                if (kind == 1 && below(4) != 0) {
+                    Model.Trip t = m.new Trip(count);
+                    a = someoneAt(4, t.spot);
+                    b = someoneAt(t.spot.get(m.people.size()), t.spot);
+                }
                 same("move(" + kind + ", " + a + ", " + b + ")", x.move(kind, a, b), m.move(kind, a, b));
             } else if (r == 5 && below(4) == 0) {
                 same("clear()", x.clear(), m.clear());
@@ -248,7 +311,7 @@ public final class ModelTest {
         void host() {
             switch (below(5)) {
                 case 0: {
-                    int s = odd(0, 3), sort = odd(-1, 2), n = odd(0, 40);
+                    int s = odd(0, 3), sort = below(3) == 0 ? odd(-1, 2) : odd(0, 2), n = odd(0, 40);
                     same("sheet(" + s + ", " + sort + ", " + n + ")", x.sheet(s, sort, n), m.sheet(s, sort, n));
                     break;
                 }
@@ -264,7 +327,8 @@ public final class ModelTest {
                     break;
                 }
                 case 3: {
-                    int s = odd(0, 3), sort = odd(0, 2), place = odd(0, 36), n = below(3) == 0 ? odd(0, 6) : below(2);
+                    int s = odd(0, 3), sort = below(2) == 0 ? odd(0, 2) : s >= 0 && s < 4 ? m.sorts[s] : 0;
+                    int place = below(2) == 0 ? 4 * below(4) : odd(0, 36), n = below(3) == 0 ? odd(0, 6) : below(2);
                     same("peopleBy(" + s + ", " + sort + ", " + place + ", " + n + ")",
                         x.peopleBy(s, sort, place, n), m.peopleBy(s, sort, place, n));
                     break;
