@@ -93,7 +93,7 @@ public final class PromisesTest {
         return x;
     }
 
-    /** Two more for the ferry: 3 from landing 1 to 3, 4 from landing 3 to 1. It takes 8 hours (2 waits at 1), 6 swaps, 5 rowings. */
+    /** Two more for the ferry: 3 from landing 1 to 3, 4 from landing 3 to 1. It takes 8 hours, 6 swaps, 5 rowings. */
     private static OneForOne longFerry() {
         OneForOne x = ferry();
         x.person(0, 13, 0, 0);
@@ -189,6 +189,24 @@ public final class PromisesTest {
         due(5, "feed(6, ..), BAD ahead of FULL", x.feed(6, 32, 32, 32, 0, 0), -2);
         due(5, "feed(2, ..) fills it", x.feed(2, 32, 32, 32, 0, 0), 160);
         due(5, "feed(1, ..) when full", x.feed(1, 32, 32, 32, 0, 0), -4);
+        OneForOne y = new OneForOne();
+        String text = "may 1;row 12345-0;gain 1;";
+        for (int i = 0; i < text.length(); i += 5) {
+            y.feed(5, text.charAt(i), text.charAt(i + 1), text.charAt(i + 2), text.charAt(i + 3), text.charAt(i + 4));
+        }
+        due(5, "the five come in their order: a NUMBER too long at 10", y.text(), -110);
+        text = "may 1;row 87-0;gain off;;";
+        for (int i = 0; i < text.length(); i += 5) {
+            y.feed(5, text.charAt(i), text.charAt(i + 1), text.charAt(i + 2), text.charAt(i + 3), text.charAt(i + 4));
+        }
+        due(5, "the five come in their order: a ; too much at 24", y.text(), -124);
+        y.feed(5, 'm', 'a', 'y', '0', ';');
+        y.feed(5, 'r', 'o', 'w', '8', '7');
+        y.feed(3, ';', 'g', 'a', 'x', 'x');
+        y.feed(4, 'i', 'n', '5', ';', 'x');
+        due(5, "only the first n come", y.text(), 1);
+        y.force(1);
+        due(5, "row of it", y.asks(1, 0, 1, 0), 87);
     }
 
     private static void text() {
@@ -208,6 +226,14 @@ public final class PromisesTest {
         due(6, "count(6), the tape stays", x.count(6), 3);
         due(6, "count(4)", x.count(4), 6);
         due(6, "text 1 is as it was", x.force(1) + 10 * x.asks(1, 0, 3, 0), 30);
+        OneForOne z = new OneForOne();
+        due(6, "a FAULT far on, with 4 open", read(z, "may 3;row 44;gain ((((5+;"), -124);
+        due(6, "behind it a text with 5 open", read(z, "may 0;row 55;gain (((((5)))));"), 1);
+        z.force(1);
+        z.person(0, 0, 0, 0);
+        due(6, "its may", z.asks(0, 0, 0, 0), 0);
+        due(6, "its row", z.asks(1, 0, 1, 0), 55);
+        due(6, "its gain", z.asks(2, 0, 0, 0), 5);
         String longest = "may 1+2+3+4;row 5;gain  ";
         while (longest.length() < 158) {
             longest += "1+";
@@ -258,6 +284,9 @@ public final class PromisesTest {
         gains("1<0+2", 1);
         gains("7 and 8", 1);
         gains("7 and 0", 0);
+        gains("1 and 5", 1);
+        gains("0 and 5", 0);
+        gains("1 or 0", 1);
         gains("0 or 8", 1);
         gains("0 or 0", 0);
         gains("8", 8);
@@ -298,6 +327,13 @@ public final class PromisesTest {
         fault("may 1+;", 6);
         fault("may +1;", 4);
         fault("may 1+*2;", 6);
+        fault("may 1<;", 6);
+        fault("may 1=;", 6);
+        fault("may 1*;", 6);
+        fault("may -;", 5);
+        fault("may (1<);", 7);
+        fault("may 1;row 1;gain 1;\0", 19);
+        fault("\0may 1;row 1;gain 1;", 0);
         fault("may (1;", 6);
         fault("may 1);", 5);
         fault("may ();", 5);
@@ -435,6 +471,16 @@ public final class PromisesTest {
         due(10, "foe(2, 0, 0)", x.foe(2, 0, 0), 1);
         due(10, "FOES of 0 then", x.told(0, 6), 0);
         due(10, "foe(0, 2, 0)", x.foe(0, 2, 0), 0);
+        x.foe(0, 1, 1);
+        x.foe(2, 1, 1);
+        due(10, "FOES of 1 are both", x.told(1, 6), 5);
+        x.foe(1, 0, 0);
+        due(10, "FOES of 1, the other one stays", x.told(1, 6), 4);
+        due(10, "FOES of 2, the other one stays", x.told(2, 6), 2);
+        x.foe(0, 1, 1);
+        x.foe(1, 2, 0);
+        due(10, "FOES of 1, the first stays", x.told(1, 6), 1);
+        x.foe(0, 1, 0);
         due(10, "foe(1, 1, 1)", x.foe(1, 1, 1), -1);
         due(10, "foe(0, 3, 1)", x.foe(0, 3, 1), -1);
         due(10, "foe(-1, 0, 1)", x.foe(-1, 0, 1), -1);
@@ -657,6 +703,19 @@ public final class PromisesTest {
         x.move(2, 9, 0);
         x.move(1, 2, 0);
         due(18, "gone and come back: only the first counts", x.run(4, 3), 50);
+        OneForOne y = new OneForOne();
+        y.person(0, 40, 917, 0);
+        y.person(0, 1, 905, 0);
+        y.person(3, 10, 903, 0);
+        y.move(0, 0, 0);
+        y.move(1, 0, 1);
+        y.move(0, 1, 0);
+        y.move(1, 1, 2);
+        y.move(0, 0, 0);
+        y.move(1, 2, 0);
+        due(18, "all who came", y.run(5, 3), 22);
+        due(18, "all who came, PAID too at TO", y.run(6, 3), 25);
+        due(18, "one who has gone is not THERE", y.run(6, 2), 6);
     }
 
     private static void where() {
@@ -685,8 +744,30 @@ public final class PromisesTest {
         due(20, "all(2)", x.all(2), 2);
         due(20, "all(3)", x.all(3), -2);
         due(20, "all(-1)", x.all(-1), -2);
+        x.far(0, 2, 1);
+        due(20, "all(0) by a shorter way", x.all(0), 2);
         x.far(0, 2, 9);
         due(20, "all(0) by landing 1", x.all(0), 4);
+        x.moor(1);
+        due(20, "all(0) from landing 1", x.all(0), 5);
+        x.moor(0);
+        due(20, "all(0) from landing 0", x.all(0), 4);
+        x.foe(1, 2, 1);
+        due(20, "all(0), FOES don't meet in THE BOAT", x.all(0), 4);
+        x.person(4, 40, 0, 0);
+        due(20, "all(0), one knits", x.all(0), 4);
+        x.foe(1, 3, 1);
+        due(20, "all(0), one knits who is a FOE", x.all(0), -1);
+        x.foe(1, 3, 0);
+        due(20, "all(0), no FOE any more", x.all(0), 4);
+        due(20, "all(1), another question", x.all(1), 3);
+        due(20, "all(0) behind it", x.all(0), 4);
+        x.image();
+        x.put(1, 2);
+        x.put(2, 0);
+        due(20, "all(0), ALL put there", x.all(0), 0);
+        x.back();
+        due(20, "all(0), back", x.all(0), 4);
         due(20, "all(2) straight", x.all(2), 2);
         x.moor(2);
         due(20, "all(0) from landing 2", x.all(0), 4);
@@ -752,6 +833,11 @@ public final class PromisesTest {
         read(z, "may 1;row 99*(1-(on=1))+1;gain 1;");
         z.force(1);
         due(22, "never(1) by slow rows", z.never(1), 4);
+        due(22, "never(1) of five: 5! times 4", longFerry().never(1), 480);
+        OneForOne lost = new OneForOne();
+        lost.person(0, 12, 0, 0);
+        lost.person(0, 22, 0, 0);
+        due(22, "never(0), 0 never", lost.never(0), 1);
         OneForOne full = new OneForOne();
         full.person(0, 40, 0, 0);
         full.person(0, 0, 0, 0);
@@ -806,6 +892,9 @@ public final class PromisesTest {
         x.put(2, 0);
         due(24, "bound(): PAID is THERE", x.bound(), 0);
         due(24, "bound() without people", new OneForOne().bound(), 0);
+        OneForOne y = new OneForOne();
+        y.person(0, 13, 0, 0);
+        due(24, "bound() of the first: to 1 and on to 3", y.bound(), 3);
     }
 
     private static void gap() {
@@ -848,6 +937,22 @@ public final class PromisesTest {
         x.person(3, 10, 0, 0);
         due(27, "help(0), it isn't so", x.help(0), -1);
         due(27, "help(1), it isn't so", x.help(1), -1);
+        OneForOne at = new OneForOne();
+        at.person(0, 40, 0, 0);
+        due(27, "help(0), at landing 0", at.help(0), 0);
+        due(27, "help(1), at once", at.help(1), 0);
+        OneForOne far = new OneForOne();
+        far.person(0, 43, 0, 0);
+        due(27, "help(0), at landing 3", far.help(0), 3);
+        due(27, "help(1), in 3 hours", far.help(1), 3);
+        far.far(0, 3, 9);
+        far.far(1, 3, 9);
+        far.far(2, 3, 9);
+        due(27, "help(0), later", far.help(0), 3);
+        due(27, "help(1), later", far.help(1), 9);
+        far.put(0, 3);
+        due(27, "help(0), ALL are THERE", far.help(0), -1);
+        due(27, "help(1), ALL are THERE", far.help(1), -1);
         OneForOne y = new OneForOne();
         y.person(4, 40, 0, 0);
         y.person(0, 1, 0, 0);
@@ -879,6 +984,8 @@ public final class PromisesTest {
         x.put(1, 2);
         x.put(2, 0);
         due(28, "laws(), ALL are THERE", x.laws(), 15);
+        x.put(1, 4);
+        due(28, "laws(), never by any", x.laws(), 0);
     }
 
     private static void join() {
@@ -892,6 +999,9 @@ public final class PromisesTest {
         due(29, "join(1, 1)", x.join(1, 1), -5);
         due(29, "join(4, 1)", x.join(4, 1), -5);
         due(29, "join(0, -1)", x.join(0, -1), -5);
+        read(x, "may 1;row base*10;gain 1;");
+        x.force(1);
+        due(29, "join(0, 2), HOURS are 1, row is 10", x.join(0, 2), 20);
         x.put(0, 1);
         due(29, "join, never", x.join(0, 2), -1);
     }
@@ -902,6 +1012,10 @@ public final class PromisesTest {
         due(30, "leave(1)", x.leave(1), 2);
         due(30, "leave(2)", x.leave(2), -2);
         due(30, "leave(-1)", x.leave(-1), -2);
+        x.far(0, 2, 9);
+        x.far(1, 2, 9);
+        due(30, "leave(0), a longer way", x.leave(0), 2);
+        due(30, "leave(1), a longer way by 3", x.leave(1), 4);
         x.put(1, 2);
         x.put(2, 0);
         due(30, "leave(0), ALL are THERE: the first of like ones", x.leave(0), 0);
@@ -934,6 +1048,18 @@ public final class PromisesTest {
         read(y, "may off<on;row 1;gain 1;");
         y.force(1);
         due(31, "first(), ALL are THERE, but never again", y.first(), -1);
+        due(31, "all(0) behind first()", y.all(0), 0);
+        due(31, "never(1) behind first()", y.never(1), 8);
+        OneForOne z = new OneForOne();
+        z.person(0, 2, 0, 0);
+        z.person(3, 43, 0, 0);
+        z.person(3, 43, 0, 0);
+        due(31, "first(), nobody is there to be taken on", z.first(), -1);
+        z.person(3, 20, 0, 0);
+        due(31, "first(), of two ABOARD the first", z.first(), 10);
+        read(z, "may off=2 or at=2;row 1;gain 1;");
+        z.force(1);
+        due(31, "first(), of two ABOARD the second", z.first(), 20);
     }
 
     // ---- moves by lot
@@ -948,6 +1074,19 @@ public final class PromisesTest {
         due(32, "drawn(0, 1, 2): 48271, 1 over 3: landing 2", x.drawn(0, 1, 2), 2);
         due(32, "drawn(99999, 1, 2): 100000 * 48271 modulo, 2 over 3", x.drawn(99999, 1, 2),
             1 + (int) (100000L * 48271 % 2147483647 % 3));
+        due(32, "drawn(2, 1, 2): 144813, 0 over 3: landing 1", x.drawn(2, 1, 2), 1);
+        int rows = 0;
+        int at = 0;
+        long lot = 12346;
+        for (int k = 0; k < 40; k++) {
+            lot = lot * 48271 % 2147483647;
+            int l = (int) (lot % 3);
+            l += l < at ? 0 : 1;
+            rows += Math.abs(l - at);
+            at = l;
+        }
+        due(32, "drawn(12345, 40, 1)", x.drawn(12345, 40, 1), rows);
+        due(32, "drawn(12345, 40, 2)", x.drawn(12345, 40, 2), at);
         due(32, "drawn(-1, 0, 0)", x.drawn(-1, 0, 0), -2);
         due(32, "drawn(100000, 0, 0)", x.drawn(100000, 0, 0), -2);
         due(32, "drawn(0, 41, 0)", x.drawn(0, 41, 0), -2);
@@ -960,6 +1099,13 @@ public final class PromisesTest {
         due(32, "drawn(7, 2, 2): 1460846352, 0 over 4: the swap back", y.drawn(7, 2, 1), 0);
         due(32, "drawn(1, 1, 2): 96542, 2 over 4: landing 2", y.drawn(1, 1, 2), 2);
         due(32, "what is told is not changed", y.count(0), 0);
+        OneForOne z = new OneForOne();
+        z.person(0, 40, 0, 0);
+        z.person(0, 40, 0, 0);
+        z.person(0, 1, 0, 0);
+        due(32, "drawn(4, 1, 0): 241355, 0 over 5: 0 OFF", z.drawn(4, 1, 0), 1);
+        due(32, "drawn(0, 1, 0): 48271, 1 over 5: 1 OFF", z.drawn(0, 1, 0), 2);
+        due(32, "drawn(1, 1, 2): 96542, 2 over 5: landing 1", z.drawn(1, 1, 2), 1);
     }
 
     private static void chance() {
@@ -982,6 +1128,8 @@ public final class PromisesTest {
         for (long d = 2; d <= 20; d++) {
             due(33, "in lowest terms", above % d == 0 && below % d == 0 ? d : 0, 0);
         }
+        due(33, "chance of seed 0", x.chance(0, 0, 110, 0), 1);
+        due(33, "chance behind no moves", x.chance(2, 0, 100, 0), 1);
         due(33, "chance(3, ..): no such one", x.chance(3, 7, 110, 0), no);
         due(33, "chance(-1, ..)", x.chance(-1, 7, 110, 0), no);
         due(33, "chance of seed -1", x.chance(0, -1, 110, 0), no);
@@ -1068,7 +1216,7 @@ public final class PromisesTest {
         x.cell(1, 1, 33);
         x.sheet(1, 2, 4);
         x.peopleBy(1, 2, 0, 1);
-        due(36, "all 0 again", x.told(0, 1), 0);
+        due(36, "all 0 again", x.told(0, 0) + x.told(0, 1) + x.told(0, 2) + x.told(0, 4) + x.told(0, 5), 0);
     }
 
     private static void cell() {
