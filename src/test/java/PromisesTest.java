@@ -834,6 +834,9 @@ public final class PromisesTest {
         z.force(1);
         due(22, "never(1) by slow rows", z.never(1), 4);
         due(22, "never(1) of five: 5! times 4", longFerry().never(1), 480);
+        OneForOne four = ferry();
+        four.person(0, 10, 0, 0);
+        due(22, "never(1) of four in four places: 4! times 4", four.never(1), 96);
         OneForOne lost = new OneForOne();
         lost.person(0, 12, 0, 0);
         lost.person(0, 22, 0, 0);
