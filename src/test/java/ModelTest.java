@@ -34,6 +34,9 @@ public final class ModelTest {
 
     /** One run: a new object, a new model, random calls. */
     static final class Run {
+        // What an object answers behind its 512th call is free.
+        static final int MOST_CALLS = 512;
+
         final Random random;
         final OneForOne x = new OneForOne();
         final Model m = new Model();
@@ -54,7 +57,7 @@ public final class ModelTest {
             if (below(3) == 0) {
                 sheets();
             }
-            for (int i = 0; i < n && fault == null; i++) {
+            for (int i = 0; i < n && trace.size() < MOST_CALLS && fault == null; i++) {
                 step();
             }
             return trace.size();
@@ -212,7 +215,7 @@ public final class ModelTest {
         }
 
         void feedText(String text) {
-            for (int i = 0; i < text.length(); i += 5) {
+            for (int i = 0; i < text.length() && trace.size() < MOST_CALLS - 1; i += 5) {
                 int[] b = new int[5];
                 int n = Math.min(5, text.length() - i);
                 for (int k = 0; k < n; k++) {

