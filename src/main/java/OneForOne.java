@@ -1010,11 +1010,14 @@ public final class OneForOne {
         }
 
         private boolean spells(int at, int from, int length) {
-            if (length >= WORD_ROOM || at + length >= WORDS.length() || WORDS.charAt(at + length) != ' ') {
+            if (length >= WORD_ROOM || at < 0 || at + length >= WORDS.length() || WORDS.charAt(at + length) != ' ') {
+                return false;
+            }
+            if (from < 0 || from + length > tape.length) {
                 return false;
             }
             for (int i = 0; i < length; i++) {
-                if (WORDS.charAt(at + i) != byteAt(from + i)) {
+                if (WORDS.charAt(at + i) != tape[from + i]) {
                     return false;
                 }
             }

@@ -2776,6 +2776,10 @@ public final class SentencesTest {
             rule(x, "0", "1", "1");
             due("help(0), none", x.help(0), -1);
             due("help(1), none", x.help(1), -1);
+            OneForOne empty = ferry();
+            empty.put(0, 3);
+            due("help(0), one more ABOARD would, at a LANDING none", empty.help(0), -1);
+            due("help(1), one more ABOARD would, at a LANDING none", empty.help(1), -1);
             for (OneForOne y : new OneForOne[] {new OneForOne(), crowd(5), ferry(), longFerry()}) {
                 due("help(0), it isn't so", y.help(0), -1);
                 due("help(1), it isn't so", y.help(1), -1);
