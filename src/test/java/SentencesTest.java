@@ -206,6 +206,17 @@ public final class SentencesTest {
     // ---- what it is
 
     private static void wholeObject() {
+        in("The public face");
+        sentence("public static final int NONE = -1, BAD = -2, STATE = -3, FULL = -4;", () -> {
+            due("NONE", OneForOne.NONE, -1);
+            due("BAD", OneForOne.BAD, -2);
+            due("STATE", OneForOne.STATE, -3);
+            due("FULL", OneForOne.FULL, -4);
+        });
+        sentence("public static final long NO = -4611686018427387904L;", () -> {
+            due("NO", OneForOne.NO, -4611686018427387904L);
+            due("chance(0, 0, 100, 0) of nobody", new OneForOne().chance(0, 0, 100, 0), -4611686018427387904L);
+        });
         in("What it is");
         sentence("An object is used for at most 512 calls after it has been made", () -> {
             OneForOne x = longFerry();
@@ -1469,6 +1480,24 @@ public final class SentencesTest {
             }
             due("person(6, 40, 0, 0): BAD, STATE", three.person(6, 40, 0, 0), -2);
             due("put(3, 4): -5, STATE", three.put(3, 4), -5);
+        });
+        sentence("NONE there is no such thing; BAD a number is not as told; STATE as told; FULL. The host's: -11 nothing there, -12 a place outside, -13 of another sort or KIND, -14 a size below 0", () -> {
+            OneForOne x = crowd(2);
+            due("NONE: far(4, 0, 1)", x.far(4, 0, 1), OneForOne.NONE);
+            due("BAD: moor(4)", x.moor(4), OneForOne.BAD);
+            due("STATE: back()", x.back(), OneForOne.STATE);
+            for (int k = 0; k < 16; k++) {
+                x.move(2, 0, 0);
+            }
+            due("FULL: move(2, 0, 0)", x.move(2, 0, 0), OneForOne.FULL);
+            due("nothing there: cell(0, 0, 0)", x.cell(0, 0, 0), -11);
+            due("nothing there: taken(6, 0)", x.taken(6, 0), -11);
+            x.sheet(0, 0, 1);
+            due("a place outside: cell(0, 1, 0)", x.cell(0, 1, 0), -12);
+            due("a place outside: taken(10, 0)", x.taken(10, 0), -12);
+            due("of another sort: peopleBy(0, 1, 0, 0)", x.peopleBy(0, 1, 0, 0), -13);
+            due("of another KIND: taken(4, 1)", x.taken(4, 1), -13);
+            due("a size below 0: sheet(0, 0, -1)", x.sheet(0, 0, -1), -14);
         });
         sentence("(a -1 that is an answer comes behind the refusal of a number)", () -> {
             OneForOne x = stuck();
