@@ -344,7 +344,7 @@ public final class OneForOne {
         }
         rules.learn(lawNow());
         rules.findPaths();
-        return rules.path[LANDINGS * u + v];
+        return rules.pathOf(u, v);
     }
 
     // ---- what would help.
@@ -757,7 +757,8 @@ public final class OneForOne {
                 return 0;
             }
             int top = -1;
-            for (int i = part == 0 ? 0 : ends[part - 1]; i < ends[part] && i < codes.length; i++) {
+            int from = part == 0 ? 0 : Math.max(0, ends[part - 1]);
+            for (int i = from; i < ends[part] && i < codes.length; i++) {
                 int code = codes[i];
                 if (code >= LAST_NAME) {
                     top++;
@@ -803,21 +804,24 @@ public final class OneForOne {
         }
     }
 
-    /** Reads a TEXT from THE TAPE into a Law; each part of the grammar says whether it stands, else place is the FAULT. */
+    /** Reads a TEXT from THE TAPE into a Law: all TOKENS first; then each part of the grammar says whether it stands. */
     private static final class Reader {
         private static final String WORDS = "off  on   at   base hour by   may  row  gain or   and  not  ";
         private static final int WORD_ROOM = 5, NAMES = 6;
         private static final int MAY_WORD = 6, OR_WORD = 9, AND_WORD = 10, NOT_WORD = 11;
-        private static final int NUMBER = 300, END = 301, WRONG = 302;
+        // A TOKEN is a word's place in WORDS, a sign's byte, or NUMBER and the number.
+        private static final int END = 300, WRONG = 301, NUMBER = 1000;
         private static final int MOST_OPEN = 5, MOST_DIGITS = 4;
 
         private final int[] tape = new int[TAPE_ROOM];
         int size;
-        private Law law;
-        private int place;
+        private final int[] tokens = new int[TAPE_ROOM + 1];
+        private final int[] places = new int[TAPE_ROOM + 1];
+        private int found;
         private int next;
         private int token;
-        private int amount;
+        private int place;
+        private Law law;
         private int open;
 
         Reader(Law law) {
@@ -835,8 +839,9 @@ public final class OneForOne {
         int faultOf(Law into) {
             law = into;
             law.begin();
-            next = 0;
             open = 0;
+            split();
+            next = 0;
             step();
             for (int part = MAY; part <= GAIN; part++) {
                 if (!standsPart(part)) {
@@ -941,10 +946,10 @@ public final class OneForOne {
                 step();
                 return true;
             }
-            if (token != NUMBER && token >= NAMES) {
+            if (token >= NAMES && token < NUMBER) {
                 return false;
             }
-            law.add(token == NUMBER ? amount : -1 - token);
+            law.add(token >= NUMBER ? token - NUMBER : -1 - token);
             step();
             return true;
         }
@@ -958,46 +963,79 @@ public final class OneForOne {
             return true;
         }
 
+        private void step() {
+            if (next >= 0 && next < found && next < tokens.length) {
+                token = tokens[next];
+                place = places[next];
+                next++;
+            }
+        }
+
+        /** THE TAPE becomes TOKENS, each as long as can be, and END behind them. */
+        private void split() {
+            found = 0;
+            int from = 0;
+            while (from < size) {
+                int end = endOf(from);
+                if (byteAt(from) != 32 && byteAt(from) != 10) {
+                    note(tokenFrom(from, end - from), from);
+                }
+                from = Math.max(end, from + 1);
+            }
+            note(END, size);
+        }
+
+        private void note(int what, int where) {
+            if (found >= 0 && found < tokens.length) {
+                tokens[found] = what;
+                places[found] = where;
+                found++;
+            }
+        }
+
         private int byteAt(int i) {
             return i >= 0 && i < size && i < tape.length ? tape[i] : -1;
         }
 
-        private void step() {
-            for (int i = next; i < size && (byteAt(i) == 32 || byteAt(i) == 10); i++) {
-                next = i + 1;
-            }
-            place = next;
-            int b = byteAt(place);
-            if (b < 0) {
-                token = END;
-            } else if (b >= 'a' && b <= 'z') {
-                stepOver('a', 'z');
-                token = wordFrom(place, next - place);
-            } else if (b >= '0' && b <= '9') {
-                stepOver('0', '9');
-                token = numberFrom(place, next - place);
-            } else {
-                next = place + 1;
-                token = b == '(' || b == ')' || b == ';' || b == '+' || b == '-' || b == '*' || b == '<' || b == '='
-                    ? b : WRONG;
-            }
+        private static boolean isLetter(int b) {
+            return b >= 'a' && b <= 'z';
         }
 
-        private void stepOver(int low, int high) {
-            for (int i = next; i < size && byteAt(i) >= low && byteAt(i) <= high; i++) {
-                next = i + 1;
+        private static boolean isDigit(int b) {
+            return b >= '0' && b <= '9';
+        }
+
+        private int endOf(int from) {
+            boolean word = isLetter(byteAt(from));
+            boolean number = isDigit(byteAt(from));
+            int end = from + 1;
+            while (end < size && (word && isLetter(byteAt(end)) || number && isDigit(byteAt(end)))) {
+                end++;
             }
+            return end;
+        }
+
+        private int tokenFrom(int from, int length) {
+            int b = byteAt(from);
+            if (isLetter(b)) {
+                return wordFrom(from, length);
+            }
+            if (isDigit(b)) {
+                return numberFrom(from, length);
+            }
+            boolean sign = b == '(' || b == ')' || b == ';' || b == '+' || b == '-' || b == '*' || b == '<' || b == '=';
+            return sign ? b : WRONG;
         }
 
         private int numberFrom(int from, int length) {
             if (length > MOST_DIGITS) {
                 return WRONG;
             }
-            amount = 0;
+            int number = 0;
             for (int i = 0; i < length; i++) {
-                amount = 10 * amount + byteAt(from + i) - '0';
+                number = 10 * number + byteAt(from + i) - '0';
             }
-            return NUMBER;
+            return NUMBER + number;
         }
 
         private int wordFrom(int from, int length) {
@@ -1031,7 +1069,7 @@ public final class OneForOne {
         private Law law;
         private final int[] names = new int[6];
         final int[] row = new int[LANDINGS * LANDINGS];
-        final int[] path = new int[LANDINGS * LANDINGS];
+        private final int[] path = new int[LANDINGS * LANDINGS];
         private final int[] swapAt = new int[MOST_PEOPLE * MOST_PEOPLE];
         private int goats;
         private int children;
@@ -1216,6 +1254,10 @@ public final class OneForOne {
             }
         }
 
+        int pathOf(int u, int v) {
+            return isLanding(u) && isLanding(v) ? path[LANDINGS * u + v] : 0;
+        }
+
         int farthest() {
             findPaths();
             int most = 0;
@@ -1223,7 +1265,7 @@ public final class OneForOne {
                 int at = lake.place[p] == ABOARD ? lake.boat : lake.place[p];
                 boolean there = (paid >> p & 1) != 0 || lake.place[p] == lake.to[p];
                 if (!there) {
-                    most = Math.max(most, path[LANDINGS * lake.boat + at] + path[LANDINGS * at + lake.to[p]]);
+                    most = Math.max(most, pathOf(lake.boat, at) + pathOf(at, lake.to[p]));
                 }
             }
             return most;
@@ -1264,7 +1306,7 @@ public final class OneForOne {
                 } else {
                     comeTo(cost, measure);
                 }
-                for (int i = begin[cost]; i < size && i < order.length; i++) {
+                for (int i = firstAt(cost); i < size && i < order.length; i++) {
                     rules.look(order[i]);
                     if ((rules.atTo & need) == need) {
                         return cost;
@@ -1283,8 +1325,13 @@ public final class OneForOne {
             return -1;
         }
 
+        /** Where those begin in the order that cost so much; they end where those begin that cost 1 more. */
+        private int firstAt(int cost) {
+            return cost >= 0 && cost < begin.length ? Math.max(0, Math.min(order.length, begin[cost])) : 0;
+        }
+
         private void add(int state) {
-            if (state < 0 || state >= STATE_NUMBERS || size >= order.length) {
+            if (state < 0 || state >= STATE_NUMBERS || size < 0 || size >= order.length) {
                 return;
             }
             int bit = 1 << (state & 31);
@@ -1316,7 +1363,8 @@ public final class OneForOne {
         /** By what costs something, all that is new at just this cost. */
         private void comeTo(int cost, int measure) {
             if (measure == BY_SWAPS) {
-                for (int i = begin[cost - 1]; i < begin[cost] && i < order.length; i++) {
+                int end = firstAt(cost);
+                for (int i = firstAt(cost - 1); i < end; i++) {
                     int state = order[i] & STATE_MASK;
                     rules.look(state);
                     addSwapped(state);
@@ -1334,10 +1382,8 @@ public final class OneForOne {
         }
 
         private void addRowedFrom(int u, int v, int cost) {
-            if (cost < 0 || cost + 1 >= begin.length) {
-                return;
-            }
-            for (int i = begin[cost]; i < begin[cost + 1] && i < order.length; i++) {
+            int end = firstAt(cost + 1);
+            for (int i = firstAt(cost); i < end; i++) {
                 int state = order[i] & STATE_MASK;
                 if ((state & LANDINGS - 1) == u) {
                     add(state - u + v);
@@ -1347,8 +1393,9 @@ public final class OneForOne {
 
         /** Of all that the last reach() came to: the least cost of a state in which all of need are at TO. */
         int least(int need) {
-            for (int cost = 0; cost < costs && cost + 1 < begin.length; cost++) {
-                for (int i = begin[cost]; i < begin[cost + 1] && i < order.length; i++) {
+            for (int cost = 0; cost < costs; cost++) {
+                int end = firstAt(cost + 1);
+                for (int i = firstAt(cost); i < end; i++) {
                     if ((order[i] >> STATE_BITS & need) == need) {
                         return cost;
                     }
@@ -1372,7 +1419,7 @@ public final class OneForOne {
         void findBest(int hour) {
             bestGain = -1;
             bestHour = 0;
-            for (int cost = 0; cost < costs && cost <= hour && cost + 1 < begin.length; cost++) {
+            for (int cost = 0; cost < costs && cost <= hour; cost++) {
                 int most = mostGainAt(cost);
                 if (most > bestGain) {
                     bestGain = most;
@@ -1384,7 +1431,8 @@ public final class OneForOne {
         private int mostGainAt(int cost) {
             int most = -1;
             int checked = -1;
-            for (int i = begin[cost]; i < begin[cost + 1] && i < order.length; i++) {
+            int end = firstAt(cost + 1);
+            for (int i = firstAt(cost); i < end; i++) {
                 int who = order[i] >> STATE_BITS;
                 if (who != checked) {
                     most = Math.max(most, gainOfAll(who, cost));
@@ -1498,7 +1546,8 @@ public final class OneForOne {
             for (int k = 0; k < n; k++) {
                 lot = lot * LOT_FACTOR % LOT_MODULUS;
                 rules.listSwaps();
-                choose((int) (lot % (rules.swaps + LANDINGS - 1)));
+                int choices = Math.max(0, rules.swaps) + LANDINGS - 1;
+                choose((int) (lot % choices));
             }
         }
 
