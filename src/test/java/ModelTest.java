@@ -1,4 +1,5 @@
 import java.util.ArrayList;
+import java.util.Arrays;
 import java.util.HashMap;
 import java.util.List;
 import java.util.Map;
@@ -6,8 +7,9 @@ import java.util.PriorityQueue;
 import java.util.Random;
 
 /**
- * Random runs of calls on OneForOne and on a plain second telling of the document (Model), which must answer alike.
- * Arguments: how many runs (400), the first seed (1).
+ * Runs of calls on OneForOne and on a plain second telling of the document (Model), which must answer alike: random ones,
+ * and each call with each mix of numbers at, just beside and far from its bounds.
+ * Arguments: how many random runs (400), the first seed (1).
  */
 public final class ModelTest {
     public static void main(String[] args) {
@@ -27,6 +29,10 @@ public final class ModelTest {
             }
         }
         System.out.println(runs + " runs, " + calls + " calls, " + wrong + " wrong");
+        Edges edges = new Edges();
+        edges.go();
+        System.out.println(edges.calls + " calls at the edges, " + edges.wrong + " wrong");
+        wrong += edges.wrong;
         if (wrong > 0) {
             System.exit(1);
         }
@@ -384,6 +390,199 @@ public final class ModelTest {
                     break;
                 default:
                     same("first()", x.first(), m.first());
+            }
+        }
+    }
+
+    /** Each call with each mix of numbers at, just beside and far from its bounds, in three lakes. */
+    static final class Edges {
+        static final int LOW = Integer.MIN_VALUE, HIGH = Integer.MAX_VALUE;
+        // What remains of 512 calls behind those that set a scene.
+        static final int CALLS_A_SCENE = 200;
+        static final int[] LANDING = {LOW, -1, 0, 1, 3, 4, HIGH};
+        static final int[] PERSON = {LOW, -1, 0, 1, 2, 5, 6, HIGH};
+        static final int[] WHAT = {LOW, -1, 0, 1, 2, 3, 4, 5, 6, 7, HIGH};
+        static final int[] SHEET = {LOW, -1, 0, 1, 2, 3, 4, HIGH};
+        static final int[] SORT = {LOW, -2, -1, 0, 1, 2, 3, HIGH};
+        static final int[] CELL = {LOW, -1, 0, 1, 8, 9, 39, 40, 41, HIGH - 3, HIGH};
+        static final int[] SEED = {LOW, -1, 0, 99999, 100000, HIGH};
+        static final int[] BYTE = {-1, 0, 255, 256};
+
+        OneForOne x;
+        Model m;
+        int made;
+        int scene;
+        int calls;
+        int wrong;
+
+        void go() {
+            for (scene = 0; scene < 3; scene++) {
+                lake();
+                people();
+                movesAndStates();
+                lots();
+                host();
+            }
+        }
+
+        /** 0: nothing told; 1: a ferry that brings ALL; 2: six people, three ABOARD, all rows full. */
+        void set() {
+            x = new OneForOne();
+            m = new Model();
+            made = 0;
+            int[][] ferry = {{3, 40, 0, 0}, {0, 2, 530, 0}, {2, 20, 450, 0}, {3, 21, 9999, 1}};
+            int[][] full = {{0, 43, 120, 0}, {3, 41, 330, 0}, {4, 40, 0, 0}, {1, 2, 415, 0}, {2, 13, 540, 0}, {5, 11, 277, 1}};
+            for (int[] p : scene == 0 ? new int[0][] : scene == 1 ? ferry : full) {
+                both("person", p);
+            }
+            if (scene > 0) {
+                int[][] rows = {{0, 0, 40}, {1, 0, 9}, {2, 2, 9}, {3, scene == 1 ? -1 : 1, 40}};
+                for (int[] row : rows) {
+                    both("sheet", row);
+                }
+                both("cell", 0, 1, 12);
+                both("cell", 0, 5, 300);
+                both("cell", 2, 2, 777);
+                both("image");
+                both("move", 0, 2, 0);
+                both("move", 1, 0, 2);
+            }
+            if (scene == 2) {
+                for (int k = 0; k < 14; k++) {
+                    both("move", k % 3, k % 4, 0);
+                }
+                for (int t = 0; t < 5; t++) {
+                    text("may not (off=" + t + ");row base+" + t + ";gain by-hour;");
+                }
+                text("may 1 ; row (((((( ;");
+                both("force", 1);
+                both("foe", 3, 4, 1);
+            }
+        }
+
+        void text(String text) {
+            for (int i = 0; i < text.length(); i += 5) {
+                int n = Math.min(5, text.length() - i);
+                int[] b = new int[6];
+                b[0] = n;
+                for (int k = 0; k < n; k++) {
+                    b[k + 1] = text.charAt(i + k);
+                }
+                both("feed", b);
+            }
+            if (m.texts.size() < 6) {
+                both("text");
+            }
+        }
+
+        void lake() {
+            mix("far", LANDING, LANDING, new int[] {LOW, -1, 0, 1, 9, 10, HIGH});
+            mix("moor", LANDING);
+            mix("count", WHAT);
+            mix("feed", new int[] {LOW, -1, 0, 1, 2, 5, 6, HIGH}, BYTE, BYTE, BYTE, BYTE, BYTE);
+            mix("text");
+            mix("force", PERSON);
+            mix("asks", new int[] {LOW, -1, 0, 1, 2, 3, HIGH}, PERSON, new int[] {LOW, -1, 0, 1, 3, 4, 5, 6, 400, 401, HIGH}, LANDING);
+        }
+
+        void people() {
+            mix("person", PERSON, new int[] {LOW, -1, 0, 3, 4, 10, 33, 39, 40, 43, 44, 50, HIGH},
+                new int[] {LOW, -1, 0, 100, 9999, 10000, HIGH}, PERSON);
+            mix("foe", PERSON, PERSON, new int[] {LOW, -1, 0, 1, 2, HIGH});
+            mix("told", PERSON, WHAT);
+            mix("put", PERSON, new int[] {LOW, -1, 0, 3, 4, 5, HIGH});
+            mix("may", PERSON, PERSON);
+            mix("alone");
+        }
+
+        void movesAndStates() {
+            mix("move", new int[] {LOW, -1, 0, 1, 2, 3, HIGH}, new int[] {LOW, -1, 0, 3, 4, 5, 6, 99, 100, HIGH}, PERSON);
+            mix("judge");
+            mix("run", new int[] {LOW, -1, 0, 1, 2, 3, 15, 16, 17, HIGH}, WHAT);
+            mix("where", new int[] {LOW, -1, 0, 1, 2, 3, 15, 16, 17, HIGH}, PERSON);
+            mix("clear");
+            mix("all", WHAT);
+            mix("soonest", PERSON);
+            mix("never", WHAT);
+            mix("best", new int[] {LOW, -1, 0, 1, 4, 400, 401, HIGH}, new int[] {LOW, -1, 0, 1, 2, HIGH});
+            mix("bound");
+            mix("gap");
+            mix("way", LANDING, LANDING);
+            mix("help", WHAT);
+            mix("laws");
+            mix("join", LANDING, LANDING);
+            mix("leave", WHAT);
+            mix("first");
+        }
+
+        void lots() {
+            mix("drawn", SEED, new int[] {LOW, -1, 0, 1, 40, 41, HIGH}, new int[] {LOW, -1, 0, 1, 2, 3, HIGH});
+            mix("chance", PERSON, SEED, new int[] {LOW, -101, -1, 0, 40, 99, 100, 140, 141, 199, 2000, 2040, 2041, 2100, HIGH},
+                new int[] {LOW, -1, 0, 1, 2, HIGH});
+            mix("image");
+            mix("back");
+        }
+
+        void host() {
+            mix("sheet", SHEET, SORT, new int[] {LOW, -1, 0, 1, 40, 41, HIGH});
+            mix("cell", SHEET, CELL, new int[] {LOW, -129, -1, 0, 127, 128, 255, 256, 32767, 32768, 65535, 65536, HIGH});
+            mix("copy", SHEET, CELL, SHEET, CELL, new int[] {LOW, -1, 0, 1, 2, 9, 39, 40, 41, HIGH});
+            mix("peopleBy", SHEET, SORT, new int[] {LOW, -1, 0, 1, 4, 5, 6, 36, 37, 40, 41, HIGH - 3, HIGH}, PERSON);
+            mix("taken", new int[] {LOW, -1, 0, 3, 4, 5, 7, 9, 10, HIGH}, WHAT);
+        }
+
+        /** All mixes of the numbers of each place. */
+        void mix(String name, int[]... choices) {
+            set();
+            int all = 1;
+            for (int[] choice : choices) {
+                all *= choice.length;
+            }
+            int setting = made;
+            for (int k = 0; k < all; k++) {
+                if (made - setting >= CALLS_A_SCENE) {
+                    set();
+                }
+                int[] numbers = new int[choices.length];
+                int rest = k;
+                for (int i = 0; i < choices.length; i++) {
+                    numbers[i] = choices[i][rest % choices[i].length];
+                    rest /= choices[i].length;
+                }
+                both(name, numbers);
+                // What a call changed is seen by those behind it.
+                if (k % 5 == 0) {
+                    both("count", k / 5 % 7);
+                    both("told", k / 5 % 6, k / 30 % 7);
+                }
+            }
+        }
+
+        void both(String name, int... numbers) {
+            calls++;
+            made++;
+            Class<?>[] types = new Class<?>[numbers.length];
+            Arrays.fill(types, int.class);
+            Object[] given = new Object[numbers.length];
+            for (int i = 0; i < given.length; i++) {
+                given[i] = numbers[i];
+            }
+            Object got;
+            Object want;
+            try {
+                got = OneForOne.class.getMethod(name, types).invoke(x, given);
+                want = name.equals("feed") ? (Object) m.feed(numbers[0], Arrays.copyOfRange(numbers, 1, 6))
+                    : Model.class.getDeclaredMethod(name, types).invoke(m, given);
+            } catch (ReflectiveOperationException e) {
+                got = "threw " + e.getCause();
+                want = "an answer";
+            }
+            if (!got.equals(want)) {
+                wrong++;
+                if (wrong < 20) {
+                    System.out.println("lake " + scene + ": " + name + Arrays.toString(numbers) + " answered " + got
+                        + ", the model says " + want);
+                }
             }
         }
     }
